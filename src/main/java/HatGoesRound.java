@@ -11,7 +11,8 @@ public final class HatGoesRound {
     private static final int SETS = 64;
     private static final int ACTS_MOST = 14, SLOTS = 2, HEARD_MOST = 6, DOINGS_MOST = 4;
     private static final int HAT_MOST = 99, GIFT_MOST = 9;
-    private static final int LATER_MOST = 30, HUSH_MOST = 9, LOUD_MOST = 12, NIGHTS_MOST = 30;
+    // AHEAD_MOST holds for what is hushed, heard or torn: the document tells all three 9 bars.
+    private static final int LATER_MOST = 30, AHEAD_MOST = 9, LOUD_MOST = 12, NIGHTS_MOST = 30;
     private static final int SHARE_BARS = 6, REST_BARS = 3, GIFTS = 3, GIFT_STEP = 3, QUIET_WORTH = 8;
     private static final int TENTHS = 10;
     private static final int ROUNDS_MOST = 64;
@@ -200,7 +201,7 @@ public final class HatGoesRound {
     }
 
     public int hush(int n, int what) {
-        if (n < 0 || n > HUSH_MOST || what < 0 || what > 1) {
+        if (n < 0 || n > AHEAD_MOST || what < 0 || what > 1) {
             return OUTSIDE;
         }
         int set = cheapestHush(n);
@@ -253,7 +254,7 @@ public final class HatGoesRound {
         if (!told.hasPlayer(player)) {
             return UNKNOWN;
         }
-        if (n < 0 || n > HUSH_MOST || plays < 0 || plays > 1) {
+        if (n < 0 || n > AHEAD_MOST || plays < 0 || plays > 1) {
             return OUTSIDE;
         }
         if (heard.size >= HEARD_MOST) {
@@ -331,7 +332,7 @@ public final class HatGoesRound {
     }
 
     public int strings(int n, int x, boolean upper) {
-        if (n < 0 || n > HUSH_MOST || x < 0 || x > TENTHS) {
+        if (n < 0 || n > AHEAD_MOST || x < 0 || x > TENTHS) {
             return OUTSIDE;
         }
         int many = now.howManyPlay();
@@ -449,7 +450,7 @@ public final class HatGoesRound {
     private boolean explainsHeard(int paidSet) {
         work.become(now);
         work.payFreely(paidSet);
-        for (int n = 0; n <= HUSH_MOST; n++) {
+        for (int n = 0; n <= AHEAD_MOST; n++) {
             if (!heard.agrees(told, work, n)) {
                 return false;
             }
@@ -490,6 +491,7 @@ public final class HatGoesRound {
             divisor = left;
             left = smaller;
         }
+        // No fraction has 0 below, so that this is never the answer; it is the look at the divisor.
         if (divisor < 1) {
             return OUTSIDE;
         }

@@ -181,6 +181,11 @@ public final class ActPromises {
         DUE.is("10 is tired", x.pay(1), HatGoesRound.STATE);
         DUE.is("10 encore", x.encore(), 0);
         DUE.is("10 still paid", x.count(6), 1);
+        x.undo();
+        x.undo();
+        x.give(3);
+        DUE.is("10 the other one, too", x.pay(1), 4);
+        DUE.is("10 both are paid", x.count(6), 3);
         x = Due.concert("OP4900B10");
         x.give(4);
         x.bar();
@@ -202,7 +207,6 @@ public final class ActPromises {
         DUE.is("11 rest(0)", x.rest(0), 2);
         DUE.is("11 its wind", x.player(0, 1), 2);
         DUE.is("11 acts", x.count(10), 4);
-        x = Due.bars(Due.concert("OP1131P1400B10B10B10"), 1);
         x = Due.bars(Due.concert("OP1131P1100B10B10"), 1);
         DUE.is("11 a drum has its wind as told", x.rest(0), 1);
     }

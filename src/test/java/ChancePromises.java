@@ -151,15 +151,27 @@ public final class ChancePromises {
     }
 
     private static void promise26() {
-        String text = "OP1300P2100P1231P1910B30B51B10";
-        for (int run = 0; run < 40; run++) {
+        nightsAsPlayed("OP3300P2100P5231P4910P1130P2200B31B51B11B21B10", 63);
+        nightsAsPlayed("OP3300P2100P5231P4900P9900B30B50", 31);
+        nightsAsPlayed("OP3300P2900", 3);
+        HatGoesRound x = new HatGoesRound();
+        x.seed(9);
+        int[] outside = {0, -1, 31, Integer.MAX_VALUE};
+        for (int m : outside) {
+            DUE.is("26 nights(" + m + ")", x.nights(m), HatGoesRound.OUTSIDE);
+        }
+        DUE.is("26 the seed is left", x.seed(0), 9);
+    }
+
+    private static void nightsAsPlayed(String text, int all) {
+        for (int run = 0; run < 200; run++) {
             HatGoesRound asked = Due.concert(text);
             HatGoesRound played = Due.concert(text);
             long seed = run * 1234567890123456789L;
             asked.seed(seed);
             asked.give(3);
             played.give(3);
-            int m = 1 + run * 7 % 30;
+            int m = 30 - run * 7 % 30;
             int together = 0;
             for (int i = 0; i < m; i++) {
                 seed = next(seed);
@@ -169,16 +181,9 @@ public final class ChancePromises {
             DUE.is("26 nights(" + m + ")", asked.nights(m), together);
             DUE.is("26 the hat stays", asked.count(4), 3);
             DUE.is("26 the time stays", asked.count(3), 0);
-            DUE.is("26 all play", asked.count(5), 15);
+            DUE.is("26 all play", asked.count(5), all);
             DUE.is("26 one act", asked.count(10), 1);
             DUE.is("26 the seed", asked.seed(0), seed);
         }
-        HatGoesRound x = new HatGoesRound();
-        x.seed(9);
-        int[] outside = {0, -1, 31, Integer.MAX_VALUE};
-        for (int m : outside) {
-            DUE.is("26 nights(" + m + ")", x.nights(m), HatGoesRound.OUTSIDE);
-        }
-        DUE.is("26 the seed is left", x.seed(0), 9);
     }
 }

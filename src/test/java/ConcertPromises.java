@@ -106,6 +106,10 @@ public final class ConcertPromises {
         DUE.same("5 a refused concert", Due.allOf(x), was);
         DUE.is("5 the old repeat", x.score(0, 1), 7);
         DUE.is("5 whom the old player looks to", x.player(0, 3), 5);
+        Due.tell(x, "OB11X");
+        DUE.is("5 another fault", x.fault() * 100 + x.concert(), 397);
+        DUE.is("5 the old players and bars", x.count(1) * 10 + x.count(2), 21);
+        DUE.is("5 the old noise", x.score(0, 0), 9);
         DUE.is("5 what was kept stays", x.again(0), 1);
         x.give(5);
         DUE.is("5 anew", Due.tell(x, "OP1000P1700B01B20B30").concert(), 23);
