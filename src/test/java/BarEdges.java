@@ -3,6 +3,7 @@ public final class BarEdges {
     private static final Due DUE = new Due("BarEdges");
 
     public static void main(String[] args) {
+        whoDoesNotPlayIsPaidOrTired();
         silentIfNobodyPlays();
         silentIfThereAreNoBars();
         silentIfTheLastBarIsOver();
@@ -58,6 +59,24 @@ public final class BarEdges {
     private static void goesOn(String sentence, HatGoesRound x, int plays) {
         DUE.is("8 " + sentence + ": one comes", x.count(8) >= 0 ? 1 : 0, 1);
         DUE.is("8 " + sentence + ": bar", x.bar(), plays);
+    }
+
+    /** "A PLAYER PLAYS, or not; one that does not is PAID, or TIRED": always one of the three, and told alike. */
+    private static void whoDoesNotPlayIsPaidOrTired() {
+        String text = "OP1100P1910P1900P1132P1920P1000B11B50B10";
+        String[] doings = {"", "g9", "g9 p0 p5", "b1", "b2", "b1 r0", "g9 p2 b1", "g9 b1 p2 r1", "b3 r0 e1", "g9 p3 b2 u1",
+            "g9 p0 k0 b2 a0", "g9 p0 p1 p2 p3 p4 p5"};
+        for (String doing : doings) {
+            HatGoesRound x = Runs.of(text, doing);
+            int[] bits = {x.count(5), x.count(6), x.count(7)};
+            DUE.is("8 all together, " + doing, bits[0] + bits[1] + bits[2], 63);
+            for (int player = 0; player < 6; player++) {
+                int is = x.player(player, 4);
+                for (int what = 0; what <= 2; what++) {
+                    DUE.is("8 " + player + " is " + what + ", " + doing, bits[what] >> player & 1, is == what ? 1 : 0);
+                }
+            }
+        }
     }
 
     /** "SILENT is THE CONCERT, if nobody PLAYS"; "STATE: it is SILENT" */
